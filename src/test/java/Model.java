@@ -5,6 +5,8 @@ import java.util.Set;
 
 /** The document's words over lists and sets, to set beside the program: as slow and as literal as it likes. */
 final class Model {
+    private static final int[] WEIGHTS = {1, 2, 4, 8, 16, 32};
+
     private final int variables;
     private final List<List<Integer>> places = new ArrayList<>();
 
@@ -19,8 +21,12 @@ final class Model {
         }
     }
 
+    int variables() {
+        return variables;
+    }
+
     int assignments() {
-        return (int) Math.pow(2, variables);
+        return WEIGHTS[variables];
     }
 
     boolean constant(int d, int c) {
@@ -77,7 +83,7 @@ final class Model {
         for (int v = 0; v < variables; v++) {
             int variable = v;
             if (!made(x -> at(f, with(x, variable, !isOne(x, variable)))).equals(places.get(f))) {
-                set += (int) Math.pow(2, v);
+                set += WEIGHTS[v];
             }
         }
         return set;
@@ -127,11 +133,11 @@ final class Model {
     }
 
     private static boolean isOne(int x, int v) {
-        return x / (int) Math.pow(2, v) % 2 == 1;
+        return x / WEIGHTS[v] % 2 == 1;
     }
 
     private static int with(int x, int v, boolean one) {
-        int weight = (int) Math.pow(2, v);
+        int weight = WEIGHTS[v];
         return x - (isOne(x, v) ? weight : 0) + (one ? weight : 0);
     }
 
