@@ -238,8 +238,8 @@ public final class BoundariesTest {
 
     /** Promise 1: "V is variables clamped into 2..5." */
     private static void variablesAreClamped() {
-        int[][] givenAndV = {{LOWEST, 2}, {-5, 2}, {-1, 2}, {0, 2}, {1, 2}, {2, 2}, {3, 3}, {4, 4}, {5, 5}, {6, 5}, {7, 5},
-            {32, 5}, {34, 5}, {258, 5}, {HIGHEST, 5}};
+        int[][] givenAndV = {{LOWEST, 2}, {-5, 2}, {-1, 2}, {0, 2}, {1, 2}, {2, 2}, {3, 3}, {4, 4}, {5, 5}, {6, 5},
+            {7, 5}, {32, 5}, {34, 5}, {258, 5}, {HIGHEST, 5}};
         for (int[] pair : givenAndV) {
             String told = "new AlgebraicDiagram(" + pair[0] + ") ";
             int v = pair[1];
