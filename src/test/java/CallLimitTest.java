@@ -7,6 +7,10 @@ public final class CallLimitTest {
 
     public static void main(String[] args) {
         CallLimitTest test = new CallLimitTest();
+        test.lastCallsWrittenOut(2, 4, 2040);
+        test.lastCallsWrittenOut(3, 8, 4080);
+        test.lastCallsWrittenOut(4, 16, 8160);
+        test.lastCallsWrittenOut(5, 32, 16320);
         for (int variables = 2; variables <= 5; variables++) {
             test.eachKindIsTheLastCall(variables);
             test.onlyWritesBeforeTheLastCall(variables);
@@ -15,6 +19,41 @@ public final class CallLimitTest {
             laterCallsEnd(variables);
         }
         test.checks.end();
+    }
+
+    /** The 512th call of objects whose places 0 to 7 hold 504 to 511. */
+    private void lastCallsWrittenOut(int variables, int assignments, long totalOf510) {
+        before512(variables).due(true).constant(0, 1);
+        before512(variables).refused().constant(8, 1);
+        before512(variables).due(true).literal(0, 1);
+        before512(variables).refused().literal(0, variables);
+        before512(variables).due(true).apply(0, 6, 1, 2);
+        before512(variables).refused().apply(0, 7, 1, 2);
+        before512(variables).due(true).choose(0, 1, 2, 3);
+        before512(variables).refused().choose(0, 1, 2, 8);
+        before512(variables).due(true).fold(0, 6, 1, 0);
+        before512(variables).refused().fold(0, 7, 1, 0);
+        before512(variables).due(true).substitute(0, 1, 0, 2);
+        before512(variables).refused().substitute(0, 1, -1, 2);
+        before512(variables).due(true).exchange(0, 1, 0, 1);
+        before512(variables).refused().exchange(0, 1, 0, -1);
+        before512(variables).due(504).valueAt(0, 0);
+        before512(variables).due(511).valueAt(7, assignments - 1);
+        before512(variables).due(1).parts(6);
+        before512(variables).due(assignments).countOf(6, 510);
+        before512(variables).due(true).same(6, 6);
+        before512(variables).due(false).same(6, 7);
+        before512(variables).due(0).support(6);
+        before512(variables).due(totalOf510).total(6);
+        before512(variables).due(8).allParts();
+    }
+
+    private Run before512(int variables) {
+        Run x = new Run(checks, variables);
+        for (int call = 1; call <= 511; call++) {
+            x.constant(call % 8, call);
+        }
+        return x;
     }
 
     private void eachKindIsTheLastCall(int variables) {

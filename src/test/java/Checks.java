@@ -18,20 +18,6 @@ final class Checks {
         due(call, got ? 1L : 0L, want ? 1L : 0L);
     }
 
-    /** Place f has these values at the assignments 0, 1, 2 and so on. */
-    void holds(AlgebraicDiagram x, String told, int f, int... values) {
-        for (int at = 0; at < values.length; at++) {
-            due(told + ": valueAt(" + f + ", " + at + ")", x.valueAt(f, at), values[at]);
-        }
-    }
-
-    /** Place f has this value at all of the 2^V assignments. */
-    void holdsEverywhere(AlgebraicDiagram x, String told, int f, int variables, int value) {
-        for (int at = 0; at < 1 << variables; at++) {
-            due(told + ": valueAt(" + f + ", " + at + ")", x.valueAt(f, at), value);
-        }
-    }
-
     /** A test that checked nothing has failed too. */
     void end() {
         System.out.println(wrong + " of " + checked + " answers are not as due");

@@ -6,7 +6,7 @@ import java.util.Arrays;
 import java.util.Set;
 import java.util.TreeSet;
 
-/** The class shows the document's face and nothing else. */
+/** The class shows the document's face and nothing else (rule 1 of LANGUAGE.md). */
 public final class FaceTest {
     private static final Set<String> FACE = new TreeSet<>(Arrays.asList(
             "public static final int PLUS", "public static final int MINUS", "public static final int TIMES",
@@ -29,11 +29,32 @@ public final class FaceTest {
         for (String member : shown) {
             checks.due("document tells " + member, FACE.contains(member), true);
         }
-        int modifiers = AlgebraicDiagram.class.getModifiers();
-        checks.due("the class is public and final", modifiers, Modifier.PUBLIC | Modifier.FINAL);
-        checks.due("nested classes", AlgebraicDiagram.class.getDeclaredClasses().length, 0);
+        checkClass(checks);
+        checkNamesOfPrivateMethods(checks);
         checkConstants(checks);
         checks.end();
+    }
+
+    private static void checkClass(Checks checks) {
+        Class<?> shown = AlgebraicDiagram.class;
+        checks.due("the class is public and final", shown.getModifiers(), Modifier.PUBLIC | Modifier.FINAL);
+        checks.due("the class has no package", shown.getPackageName().isEmpty(), true);
+        checks.due("the class extends no other", shown.getSuperclass() == Object.class, true);
+        checks.due("interfaces", shown.getInterfaces().length, 0);
+        checks.due("the class and those nested in it, also without a name", shown.getNestMembers().length, 1);
+    }
+
+    /** "No private method bears the name of a public one." */
+    private static void checkNamesOfPrivateMethods(Checks checks) {
+        Set<String> publicNames = new TreeSet<>();
+        for (Method method : AlgebraicDiagram.class.getMethods()) {
+            publicNames.add(method.getName());
+        }
+        for (Method method : AlgebraicDiagram.class.getDeclaredMethods()) {
+            if (Modifier.isPrivate(method.getModifiers())) {
+                checks.due("private " + method.getName(), publicNames.contains(method.getName()), false);
+            }
+        }
     }
 
     private static Set<String> shownMembers() {
